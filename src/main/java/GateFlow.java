@@ -256,7 +256,7 @@ public final class GateFlow {
         if (set < 0 || (set & ~now.allBits()) != 0) {
             return BAD;
         }
-        return models.lossOf(now, set, freshWays());
+        return freshWays().value - models.mostIf(now, set, -1, 0);
     }
 
     public int worst(int what) {
@@ -1075,7 +1075,7 @@ public final class GateFlow {
             pairLoss = -1;
             for (int a = 0; a < g.count; a++) {
                 int can = Math.min(flow.number[a], flow.value);
-                int lost = can > gateLoss ? models.lossOf(g, 1 << a, flow) : -1;
+                int lost = can > gateLoss ? flow.value - models.mostIf(g, 1 << a, -1, 0) : -1;
                 if (lost > gateLoss) {
                     gateLoss = lost;
                     gate = a;
@@ -1084,7 +1084,7 @@ public final class GateFlow {
             for (int a = 0; a < g.count; a++) {
                 for (int b = a + 1; b < g.count; b++) {
                     int can = Math.min(flow.number[a] + flow.number[b], flow.value);
-                    int lost = can > pairLoss ? models.lossOf(g, 1 << a | 1 << b, flow) : -1;
+                    int lost = can > pairLoss ? flow.value - models.mostIf(g, 1 << a | 1 << b, -1, 0) : -1;
                     if (lost > pairLoss) {
                         pairLoss = lost;
                         pair = 100 * a + b;
@@ -1248,10 +1248,6 @@ public final class GateFlow {
                 }
             }
             return net.pass(g.source, g.sink);
-        }
-
-        int lossOf(Gates g, int shut, ByWays flow) {
-            return flow.value - mostIf(g, shut, -1, 0);
         }
 
         /** A way back from the sink makes all a ring, so values below 0 are none. */

@@ -463,13 +463,17 @@ final class Model {
 
     // ---- hours: the least cut over time; a node that is on the source's side stays there ----
 
-    int hours(int n) {
-        if (n < 1 || n > 8) return -2;
+    List<Integer> between() {
         List<Integer> between = new ArrayList<>();
         for (Gate g : gates) {
             for (int v : new int[] {g.from, g.to}) if (v != source && v != sink && !between.contains(v)) between.add(v);
         }
-        if (between.size() > 4) throw new IllegalStateException("too many nodes to try all");
+        return between;
+    }
+
+    int hours(int n) {
+        if (n < 1 || n > 8) return -2;
+        List<Integer> between = between();
         int[] since = new int[NODES];
         since[sink] = n + 1;
         return leastTimedCut(n, between, 0, since);

@@ -94,7 +94,7 @@ final class ModelTest {
             case 12: v = what(); due("lines " + i + " " + v, x.lines(i, v), m.lines(i, v)); break;
             case 13: v = bit(); due("bound " + v, x.bound(v), m.bound(v)); break;
             case 14: v = bit(); due("apart " + v, x.apart(v), m.apart(v)); break;
-            case 15: v = orOdd(1 + chance.below(5)); if (nodes <= 6) due("hours " + v, x.hours(v), m.hours(v)); break;
+            case 15: v = orOdd(1 + chance.below(5)); if (m.between().size() <= 4 || v < 1 || v > 8) due("hours " + v, x.hours(v), m.hours(v)); break;
             case 16: v = orOdd(chance.below(4)); due("two " + i + " " + v, x.two(i, v), m.two(i, v)); break;
             case 17: v = orOdd(node()); i = orOdd(chance.below(8)); due("reach " + v + " " + i, x.reach(v, i), m.reach(v, i)); break;
             case 18: v = orOdd(chance.below(6)); due("of " + g + " " + v, x.of(g, v), m.of(g, v)); break;
