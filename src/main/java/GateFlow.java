@@ -460,8 +460,8 @@ public final class GateFlow {
         }
         int[] number = way == 0 ? freshWays().number : freshHeights().number;
         for (int g = 0; g < now.count; g++) {
-            // i is looked at ahead of the sum: that could wrap around otherwise.
-            if (i < 0 || i >= LIST_PLACES || !lists.hasPlace(list, i + g)) {
+            // No place is at i itself if it is so great that the sum could wrap around.
+            if (!lists.hasPlace(list, i + g)) {
                 return BEYOND;
             }
             lists.put(list, i + g, number[g]);

@@ -119,6 +119,21 @@ final class FlowTest {
             }
         }
         Check.due("1>2 has given back", x.water(1), 2);
+        // At 2, three gates lead there: 6>2 gives nothing back that helps, 3>2 has no water yet, 1>2 does.
+        GateFlow y = new GateFlow();
+        int[][] more = {{3, 2, 1}, {6, 2, 1}, {0, 6, 1}, {0, 1, 1}, {1, 2, 1}, {2, 11, 2}, {0, 3, 1}, {1, 4, 1}, {4, 5, 1}, {5, 11, 1}};
+        for (int[] g : more) {
+            y.gate(g[0], g[1], 0, g[2], 1);
+        }
+        int[][] due = {{1, 3, 2, 1, 5}, {1, 3, 3, 4, 5}, {1, 6, 6, 0, 104, 7, 8, 9}};
+        Check.due("three ways", y.ways(-1, 0), 3);
+        for (int i = 0; i < 3; i++) {
+            Check.due("amount " + i, y.ways(i, 0), due[i][0]);
+            Check.due("steps " + i, y.ways(i, 1), due[i][1]);
+            for (int k = 0; k < due[i][1]; k++) {
+                Check.due("way " + i + " step " + k, y.ways(i, 10 + k), due[i][2 + k]);
+            }
+        }
     }
 
     private static void promise12and13() {
@@ -215,6 +230,8 @@ final class FlowTest {
         z.gate(2, 1, 0, 4, 1);
         Check.due("full, but not narrow", z.narrow(), Check.bits(1));
         Check.due("backward steps are told in near", z.near(), Check.bits(0, 1, 2));
+        afterDrop();
+        ones();
         GateFlow none = new GateFlow();
         none.gate(0, 1, 0, 999, 1);
         Check.due("a way that ends: near", none.near(), 3);
@@ -224,6 +241,64 @@ final class FlowTest {
         Check.due("999 may be wider: 0", none.more(0, 1), 0);
         none.widen(0, 998);
         Check.due("narrow at 998", none.narrow(), 1);
+    }
+
+    /** A gate that is gone is in no set any more. */
+    private static void afterDrop() {
+        GateFlow x = new GateFlow();
+        x.gate(0, 11, 0, 5, 1);
+        x.gate(0, 11, 0, 7, 1);
+        Check.due("both: cut 0", x.cut(0), 3);
+        Check.due("both: wide", x.wide(), 3);
+        Check.due("both: narrow", x.narrow(), 3);
+        x.drop();
+        Check.due("one: cut 0", x.cut(0), 1);
+        Check.due("one: cut 1", x.cut(1), 1);
+        Check.due("one: wide", x.wide(), 1);
+        Check.due("one: narrow", x.narrow(), 1);
+        Check.due("one: most", x.most(), 5);
+        Check.due("one: by heights", x.byHeights(0), 5);
+        Check.due("one: pushes", x.heights(-1, 0), 1);
+        Check.due("one: told", x.told(1) * 10000 + x.told(4) * 100 + x.told(5), 10505);
+        Check.due("one: lines", x.lines(-1, 0), 1);
+        Check.due("one: apart", x.apart(0), 1);
+        Check.due("one: hours", x.hours(2), 10);
+        Check.due("one: worst", x.worst(0) * 100 + x.worst(1), 5);
+        Check.due("one: more", x.more(0, 3), 3);
+    }
+
+    /** Amounts of 1, by gates whose number is 0, forward and backward. */
+    private static void ones() {
+        GateFlow x = new GateFlow();
+        int[][] gates = {{1, 2}, {0, 1}, {2, 11}, {0, 3}, {3, 2}, {1, 4}, {4, 5}, {5, 11}, {4, 6}};
+        for (int[] g : gates) {
+            x.gate(g[0], g[1], 0, 1, 1);
+        }
+        int[] way = {3, 4, 100, 5, 6, 7};
+        Check.due("two ways", x.ways(-1, 0), 2);
+        Check.due("the second is of six steps", x.ways(1, 1), 6);
+        for (int k = 0; k < way.length; k++) {
+            Check.due("its step " + k, x.ways(1, 10 + k), way[k]);
+        }
+        Check.due("all but 1>2 and 4>6 are full and narrow", x.narrow(), Check.bits(1, 2, 3, 4, 5, 6, 7));
+        Check.due("one of 1 given by heights", x.byHeights(1) + x.byHeights(3), 2);
+        // 0>1 and 2>11 are full; 2 is near by 0>3 and 3>2, and 1 by a step backward from 2.
+        x.turn(5, 0);
+        Check.due("one way then", x.most(), 1);
+        Check.due("1 is near by a step backward", x.near(), Check.bits(0, 1, 2, 3));
+        Check.due("2>11 alone is wide", x.wide(), Check.bits(2));
+        Check.due("2>11 alone is narrow", x.narrow(), Check.bits(2));
+        GateFlow y = new GateFlow();
+        y.gate(1, 2, 0, 1, 1);
+        y.gate(0, 1, 0, 1, 1);
+        y.gate(1, 3, 0, 1, 1);
+        y.gate(3, 11, 0, 1, 1);
+        y.gate(2, 11, 0, 0, 1);
+        // By heights 1 sends its one to 2 first; it comes back by 1>2 (gate 0), then goes by 3.
+        Check.due("2 gives it back", y.byHeights(0), 0);
+        Check.due("3 gets it", y.byHeights(2), 1);
+        Check.due("2 is lifted once", y.heights(2, 1), 1);
+        Check.due("2 is 2 high", y.heights(2, 0), 2);
     }
 
     private static void promise19() {

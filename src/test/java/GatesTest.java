@@ -181,6 +181,17 @@ final class GatesTest {
             Check.due("no what 4", x.two(i, 4), -1);
         }
         Check.due("no two 3", x.two(3, 0), -1);
+        x.gate(3, 5, 0, 1, 1);
+        x.gate(5, 4, 0, 2, 1);
+        Check.due("the same FROM alone, the same TO alone: unlike", x.two(-1, 0), 5);
+        Check.due("3 to 4 is as it was", x.two(0, 2), 3);
+        x.drop();
+        x.drop();
+        x.drop();
+        Check.due("one of 3 to 4 is gone", x.two(0, 2), 2);
+        Check.due("its capacity, too", x.two(0, 3), 5);
+        Check.due("three are left", x.two(-1, 0), 3);
+        Check.due("what is told follows", x.told(4), 0);
         Check.due("no two -2", x.two(-2, 0), -1);
     }
 

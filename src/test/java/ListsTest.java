@@ -174,7 +174,12 @@ final class ListsTest {
         y.set(0, 0, Integer.MIN_VALUE);
         Check.due("far below 0", y.judge(0, 0), 0);
         y.drop();
+        Check.due("one gate, and no place for it", y.judge(0, 2), -5);
+        Check.due("one gate, and the last place", y.judge(0, 1), 100000 - 4);
+        y.ends(5, 6);
+        Check.due("0 is no end then", y.judge(0, 1), 100);
         y.drop();
+        y.ends(0, 11);
         Check.due("no gates", y.judge(0, 0), 100000);
         Check.due("no gates, from anywhere", y.judge(0, 7), 100000);
         Check.due("no gates, but below 0", y.judge(0, -1), -13);

@@ -9,12 +9,14 @@ final class ModelTest {
     private final Check.Row chance;
     private final GateFlow x = new GateFlow();
     private final Model m = new Model();
+    private final int seed;
     private final int nodes;
     private final int top;
     private final String run;
     private int calls = 0;
 
     private ModelTest(int seed) {
+        this.seed = seed;
         chance = new Check.Row(seed);
         int kind = seed % 4;
         nodes = kind == 0 ? 6 : kind == 1 ? 4 : kind == 2 ? 8 : 12;
@@ -49,9 +51,33 @@ final class ModelTest {
     }
 
     private void build() {
+        if (seed % 5 == 0) {
+            buildThin();
+            return;
+        }
         int n = chance.below(4) == 0 ? 30 : 3 + chance.below(20);
         for (int i = 0; i < n; i++) {
             addGate();
+        }
+    }
+
+    /** Few gates that let little through: shortest ways block one another, so steps backward are needed. */
+    private void buildThin() {
+        int between = 4 + chance.below(7), n = 12 + chance.below(8);
+        for (int i = 0; i < n; i++) {
+            int from = chance.below(between + 1), to = 1 + chance.below(between + 1), cap = 1 + chance.below(3);
+            if (to == between + 1) {
+                to = 11;
+            }
+            due("gate " + from + " " + to + " " + cap, x.gate(from, to, 0, cap, 1), m.gate(from, to, 0, cap, 1));
+        }
+        for (int i = -1; i < m.ways(-1, 0); i++) {
+            for (int what = 0; what < 16; what++) {
+                due("ways " + i + " " + what, x.ways(i, what), m.ways(i, what));
+            }
+        }
+        for (int i = -1; i < m.lines(-1, 0); i++) {
+            due("lines " + i, x.lines(i, 2), m.lines(i, 2));
         }
     }
 
@@ -204,7 +230,7 @@ final class ModelTest {
     }
 
     public static void main(String[] args) {
-        int runs = args.length > 0 ? Integer.parseInt(args[0]) : 160;
+        int runs = args.length > 0 ? Integer.parseInt(args[0]) : 400;
         for (int seed = 1; seed <= runs; seed++) {
             new ModelTest(seed).go();
         }

@@ -126,6 +126,11 @@ final class PlansTest {
         for (int n : bad) {
             Check.due("no hours " + n, x.hours(n), -2);
         }
+        GateFlow w = new GateFlow();
+        w.ends(3, 4);
+        w.gate(3, 0, 0, 1, 1);
+        w.gate(0, 4, 0, 1, 1);
+        Check.due("by 0, which is no end then", w.hours(4), 3);
         GateFlow y = new GateFlow();
         for (int g = 0; g < 30; g++) {
             y.gate(0, 11, 0, 999, 1);
