@@ -1163,7 +1163,7 @@ public final class GateFlow {
             level[start] = 0;
             queue[0] = start;
             int known = 1;
-            for (int i = 0; i < known && level[end] < 0; i++) {
+            for (int i = 0; i < known && i < NET_NODES && level[end] < 0; i++) {
                 int node = queue[i];
                 int side = head[node];
                 for (int n = 0; n < NET_SIDES && side >= 0; n++) {
