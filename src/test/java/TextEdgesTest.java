@@ -145,7 +145,7 @@ final class TextEdgesTest {
     private static void readAnew() {
         Script.run("a text is read from left to right: nothing of one that had a FAULT is left",
             "gate 0 1 0 5 1 = 0", "pick `!` = -101", "pick `cap>1` = 1", "pick `(!` = -102", "pick `(cap>1)` = 1", "pick `((((!` = -105",
-            "pick `((((cap>1))))` = 1", "pick `(((((!` = -106", "pick `(((((cap>1)))))` = 1", "pick `cap>1|` = -106", "pick `cap<1` = 0",
+            "pick `((((cap>1))))` = 1", "pick `!(` = -102", "pick `cap>1` = 1", "pick `((!(cap` = -107", "pick `((cap>1))` = 1", "pick `(((((!` = -106", "pick `(((((cap>1)))))` = 1", "pick `cap>1|` = -106", "pick `cap<1` = 0",
             "pick `(cap>1|` = -107", "pick `(cap<1)` = 0", "pick `cap<1&` = -106", "pick `cap>1` = 1", "pick `(cap<1&` = -107",
             "pick `(cap>1)` = 1", "pick `((` = -102", "pick `cap>1` = 1", "pick `cap>1)` = -105", "many `cap>1` = 1",
             "shutAll 0 `!` = -101", "shutAll 0 `cap>1` = 1", "read `0>` = -102", "read `0>1:5` = 1", "read `12` = -100", "pick `cap=5` = 3");
